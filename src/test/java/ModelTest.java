@@ -23,7 +23,7 @@ public final class ModelTest {
         syncs = 2 + random.nextInt(25);
         forges = random.nextInt(30);
         users = 4 + random.nextInt(9);
-        manyRooms = random.nextInt(4) == 0;
+        manyRooms = random.nextInt(3) == 0;
     }
 
     public static void main(String[] args) {
@@ -59,8 +59,10 @@ public final class ModelTest {
         if (random.nextInt(20) == 0) {
             return;
         }
-        sendExactly(0, 0, 0, 0, random.nextInt(times));
-        sendExactly(0, 1, 0, 1, random.nextInt(times));
+        for (int u = 0; u < (manyRooms ? 4 : 1); u++) {
+            sendExactly(u, 0, 0, 0, random.nextInt(times));
+            sendExactly(u, 1, u, 1, random.nextInt(times));
+        }
         for (int s = 1; s < 4; s++) {
             sync(0, s);
         }
@@ -136,12 +138,13 @@ public final class ModelTest {
 
     private void forge() {
         int user = user();
-        int kind = kind();
+        boolean newRoom = manyRooms && random.nextInt(12) == 0;
+        int kind = newRoom ? 0 : kind();
         int a = a(user, kind);
         int b = b(user, kind, a);
         int time = random.nextInt(times);
-        int one = parent(user);
-        int two = random.nextInt(3) == 0 ? -1 : random.nextInt(6) == 0 ? one : parent(user);
+        int one = newRoom ? -1 : parent(user);
+        int two = newRoom || random.nextInt(3) == 0 ? -1 : random.nextInt(6) == 0 ? one : parent(user);
         due("forge(" + user + ", " + kind + ", " + a + ", " + b + ", " + time + ", " + one + ", " + two + ")",
             room.forge(user, kind, a, b, time, one, two), plain.forge(user, kind, a, b, time, one, two));
     }
