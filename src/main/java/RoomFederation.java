@@ -759,7 +759,7 @@ public final class RoomFederation {
             }
             findAgreed(row, size);
             findConflict(row, size);
-            findPowers(log);
+            partPowers(log);
             State resolved = new State();
             resolved.copy(agreed);
             tryQueue(orderOne(log), resolved);
@@ -793,7 +793,8 @@ public final class RoomFederation {
             }
         }
 
-        private void findPowers(Log log) {
+        /** Takes the powers, with what is of the conflict in their chains, out of the conflict. */
+        private void partPowers(Log log) {
             powers.clear();
             for (int n = 0; n < log.size(); n++) {
                 Event event = conflict.has(n) ? log.find(n) : null;
@@ -803,6 +804,7 @@ public final class RoomFederation {
                 }
             }
             powers.keepAll(conflict);
+            conflict.removeAll(powers);
         }
 
         private int list(EventSet set, Log log) {
@@ -816,9 +818,8 @@ public final class RoomFederation {
             return size;
         }
 
-        /** Fills the queue with the powers; uses their set up, for what is left of it. */
+        /** Fills the queue with the powers; their set is used up, as it tells which of them are left. */
         private int orderOne(Log log) {
-            conflict.removeAll(powers);
             int size = list(powers, log);
             for (int done = 0; done < size; done++) {
                 int first = firstFree(size - done);
@@ -846,7 +847,7 @@ public final class RoomFederation {
                 ? one.senderLevel > other.senderLevel : one.isOlderThan(other);
         }
 
-        /** Fills the queue with what the conflict has beside the powers. */
+        /** Fills the queue with what was left of the conflict. */
         private int orderTwo(State by, Log log) {
             int length = rankMainline(by);
             int size = list(conflict, log);
