@@ -360,6 +360,11 @@ public final class PromisesTest extends Rooms {
         due("though it is good", x.look(5, 6), 1);
         x = peopled();
         due("4 sets a topic early", x.forge(4, TOPIC, 0, 0, -50, 4, -1), 5);
+        due("0 removes 4 late", x.forge(0, MEMBER, 4, OUT, 50, 4, -1), 6);
+        due("it is out", x.state(0, MEMBER, 4), 6);
+        due("the topic does not stand", x.state(0, TOPIC, 0), NONE);
+        x = peopled();
+        due("4 sets a topic early", x.forge(4, TOPIC, 0, 0, -50, 4, -1), 5);
         due("4 leaves late", x.forge(4, MEMBER, 4, OUT, 50, 4, -1), 6);
         due("it is out", x.state(0, MEMBER, 4), 6);
         due("who leaves by itself removes nothing", x.state(0, TOPIC, 0), 5);
@@ -415,7 +420,71 @@ public final class PromisesTest extends Rooms {
         due("the CREATE is there as well", x.state(0, CREATE, 0), 0);
         due("two of them", x.count(0, 3), 2);
         agreedStands();
+        agreedIsTriedBy();
         chainsAreOfTheConflict();
+        chainsOfSomeStates();
+        whatWasIsOfTheConflict();
+        chainsOfPowersAreTriedFirst();
+        rulesAreOfOrderOne();
+    }
+
+    /** Topic 5 is good, but its sender's ban is agreed on: tried behind 7, it is not allowed. */
+    private static void agreedIsTriedBy() {
+        RoomFederation x = peopled();
+        due("4 sets a topic", x.send(4, TOPIC, 0, 0, 99), 5);
+        due("4 is banned", x.send(0, MEMBER, 4, BANNED, 7), 6);
+        due("0 sets it", x.forge(0, TOPIC, 0, 0, 8, 6, -1), 7);
+        due("0 speaks beside", x.forge(0, MESSAGE, 0, 0, 8, 6, -1), 8);
+        due("the ban is agreed on", x.state(0, MEMBER, 4), 6);
+        due("5 is tried last, but by it", x.state(0, TOPIC, 0), 7);
+    }
+
+    /** POWER one is in no state, but in the chain of POWER two: without it two is not allowed. */
+    private static void chainsOfSomeStates() {
+        RoomFederation x = peopled();
+        due("8 has 60", x.forge(0, POWER, 8, 60, 6, 4, -1), 5);
+        due("8 gives 1 55", x.forge(8, POWER, 1, 55, 7, 5, -1), 6);
+        due("a topic beside", x.forge(4, TOPIC, 0, 0, 90, 4, -1), 7);
+        due("the POWER of the lesser head", x.state(0, POWER, 0), 6);
+        x = peopled();
+        due("a topic", x.forge(4, TOPIC, 0, 0, 90, 4, -1), 5);
+        due("8 has 60 beside", x.forge(0, POWER, 8, 60, 6, 4, -1), 6);
+        due("8 gives 1 55", x.forge(8, POWER, 1, 55, 7, 6, -1), 7);
+        due("the POWER of the greater head", x.state(0, POWER, 0), 7);
+    }
+
+    /** MEMBER 3 is in all chains, but not in all states: it stands as removal 5 is not allowed by 6. */
+    private static void whatWasIsOfTheConflict() {
+        RoomFederation x = peopled();
+        due("4 removes 8", x.forge(4, MEMBER, 8, OUT, 6, 4, -1), 5);
+        due("4 has 0", x.forge(0, POWER, 4, 0, 7, 4, -1), 6);
+        due("the POWER", x.state(0, POWER, 0), 6);
+        due("8 is joined still", x.state(0, MEMBER, 8), 3);
+        x = peopled();
+        due("4 has 0", x.forge(0, POWER, 4, 0, 7, 4, -1), 5);
+        due("4 removes 8 beside", x.forge(4, MEMBER, 8, OUT, 6, 4, -1), 6);
+        due("the POWER", x.state(0, POWER, 0), 5);
+        due("8 is joined still", x.state(0, MEMBER, 8), 3);
+    }
+
+    /** Join 3 is of the chain of POWER 4, so it is tried ahead of the rule that would keep 4 out. */
+    private static void chainsOfPowersAreTriedFirst() {
+        RoomFederation x = begun();
+        due("4 has 100", x.send(0, POWER, 4, 100, 3), 2);
+        due("4 joins", x.forge(4, MEMBER, 4, JOINED, 5, 2, -1), 3);
+        due("4 gives 8 1", x.forge(4, POWER, 8, 1, 20, 3, -1), 4);
+        due("by invitation, beside", x.forge(0, RULE, 0, 1, 10, 2, -1), 5);
+        due("the join", x.state(0, MEMBER, 4), 3);
+        due("the POWER", x.state(0, POWER, 0), 4);
+        due("the rule", x.state(0, RULE, 0), 5);
+    }
+
+    /** The greater level is tried first though it is later; and none is tried again in order two. */
+    private static void rulesAreOfOrderOne() {
+        RoomFederation x = peopled();
+        due("0 sets the rule", x.forge(0, RULE, 0, 1, 8, 4, -1), 5);
+        due("4 sets it earlier", x.forge(4, RULE, 0, 0, 7, 4, -1), 6);
+        due("0's is tried first", x.state(0, RULE, 0), 6);
     }
 
     /** Event 4 is of the conflict by the chain of 5, and tried; but all states have 6 in its place. */
